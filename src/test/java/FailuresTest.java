@@ -56,6 +56,10 @@ public final class FailuresTest {
         x.failures(false, 0, 3);
         x.failures(false, 0, 3);
         CHECKS.due("three times three is three", x.run(MapReduceRun.ADDED), 0);
+        x.failures(true, 0, 3);
+        x.failures(true, 0, 2);
+        x.failures(true, 0, 3);
+        CHECKS.due("a part's failures are set too", x.run(MapReduceRun.ADDED), 0);
         x.failures(false, 0, 3);
         x.failures(false, 1, 3);
         x.failures(false, 2, 3);
