@@ -1,19 +1,28 @@
 /** Counts and prints the answers of a test that are not the ones that are due. */
 final class Checks {
     private int wrong = 0;
+    private String sentence = "";
+
+    /** The words of the document that the checks to come are about. */
+    void sentence(String words) {
+        sentence = words;
+    }
 
     void due(String call, long got, long want) {
         if (got != want) {
-            wrong++;
-            System.out.println(call + " answered " + got + ", due is " + want);
+            wrong(call, got, want);
         }
     }
 
     void due(String call, boolean got, boolean want) {
         if (got != want) {
-            wrong++;
-            System.out.println(call + " answered " + got + ", due is " + want);
+            wrong(call, got, want);
         }
+    }
+
+    private void wrong(String call, Object got, Object want) {
+        wrong++;
+        System.out.println("'" + sentence + "': " + call + " answered " + got + ", due is " + want);
     }
 
     /** The whole output: for each part its results as key, value, key, value and so on. */

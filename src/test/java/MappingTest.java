@@ -1,51 +1,63 @@
-/** Promise 3: mapping, and the terms' rule for a pair's key and value. */
+/** Promise 3: mapping. */
 public final class MappingTest {
     private static final Checks CHECKS = new Checks();
+    private static final int[] OUTSIDE = {Integer.MIN_VALUE, -16, -1, 0, 17, 18, Integer.MAX_VALUE};
 
     public static void main(String[] args) {
-        modulusIsLookedAt();
+        refusedModulus();
+        refusalKeepsEachSetting();
         refusalChangesNothing();
-        keysAreFromZero();
-        valuesWrap();
+        takenModulus();
+        anyFactorAndOffset();
         onlyJobsToCome();
         CHECKS.end();
     }
 
-    private static void modulusIsLookedAt() {
+    private static void refusedModulus() {
+        CHECKS.sentence("modulus outside 1..16: refused, answers false");
         MapReduceRun x = new MapReduceRun(1, 2);
-        for (int modulus = -3; modulus <= 20; modulus++) {
-            CHECKS.due("mapping(" + modulus + ", 1, 0)", x.mapping(modulus, 1, 0), modulus >= 1 && modulus <= 16);
+        for (int modulus : OUTSIDE) {
+            CHECKS.due("mapping(" + modulus + ", 1, 0)", x.mapping(modulus, 1, 0), false);
         }
-        CHECKS.due("mapping(least int, 1, 0)", x.mapping(Integer.MIN_VALUE, 1, 0), false);
-        CHECKS.due("mapping(greatest int, 1, 0)", x.mapping(Integer.MAX_VALUE, 1, 0), false);
+    }
+
+    private static void refusalKeepsEachSetting() {
+        CHECKS.sentence("modulus outside 1..16: refused, answers false");
+        for (int modulus : OUTSIDE) {
+            MapReduceRun x = new MapReduceRun(1, 2);
+            x.addRecord(0, 7, 10);
+            x.mapping(5, 2, 1);
+            x.mapping(modulus, 100, 1000);
+            x.run(MapReduceRun.ADDED);
+            CHECKS.dueOutput("after mapping(" + modulus + ", 100, 1000)", x, Checks.part(2, 21));
+        }
     }
 
     private static void refusalChangesNothing() {
-        MapReduceRun x = new MapReduceRun(1, 2);
-        x.addRecord(0, 7, 10);
-        x.mapping(5, 2, 1);
-        x.mapping(0, 100, 100);
-        x.mapping(17, 200, 200);
-        x.mapping(-5, 300, 300);
-        x.run(MapReduceRun.ADDED);
-        CHECKS.dueOutput("after refusals", x, Checks.part(2, 21));
-    }
-
-    private static void keysAreFromZero() {
-        int[] keys = {Integer.MIN_VALUE, Integer.MIN_VALUE + 1, -17, -16, -15, -1, 0, 1, 15, 16, 17, Integer.MAX_VALUE};
-        for (int modulus = 1; modulus <= 16; modulus++) {
-            MapReduceRun x = new MapReduceRun(1, 2);
-            x.mapping(modulus, 1, 0);
-            for (int key : keys) {
-                x.emptySplit(1);
-                x.addRecord(1, key, 1);
-                x.run(MapReduceRun.ADDED);
-                CHECKS.due(key + " mod " + modulus, x.keyAt(0, 0), Math.floorMod(key, modulus));
-            }
+        CHECKS.sentence("modulus outside 1..16: refused, answers false");
+        Twins twins = new Twins(CHECKS);
+        for (int modulus : OUTSIDE) {
+            twins.changesNothing("mapping(" + modulus + ", 7, 9)", 0, x -> x.mapping(modulus, 7, 9) ? 1 : 0);
         }
     }
 
-    private static void valuesWrap() {
+    private static void takenModulus() {
+        CHECKS.sentence("Else true");
+        for (int modulus = 1; modulus <= 16; modulus++) {
+            MapReduceRun x = new MapReduceRun(1, 2);
+            CHECKS.due("mapping(" + modulus + ", 2, 3)", x.mapping(modulus, 2, 3), true);
+            x.addRecord(0, modulus - 1, 1);
+            x.addRecord(0, modulus, 10);
+            CHECKS.due("run with modulus " + modulus, x.run(MapReduceRun.ADDED), modulus == 1 ? 1 : 2);
+            CHECKS.due("the least key", x.keyAt(0, 0), 0);
+            CHECKS.due("its value", x.valueAt(0, 0), modulus == 1 ? 28 : 23);
+            CHECKS.due("the second key", x.keyAt(0, 1), modulus == 1 ? MapReduceRun.BAD : modulus - 1);
+            CHECKS.due("its value", x.valueAt(0, 1), modulus == 1 ? 0 : 5);
+        }
+    }
+
+    private static void anyFactorAndOffset() {
+        CHECKS.sentence("Sets M, F and G");
         int[] numbers = {Integer.MIN_VALUE, -3, -1, 0, 1, 2, 65536, Integer.MAX_VALUE};
         MapReduceRun x = new MapReduceRun(1, 2);
         x.addRecord(0, 0, Integer.MAX_VALUE);
@@ -53,9 +65,9 @@ public final class MappingTest {
         x.addRecord(0, 2, 123456);
         for (int factor : numbers) {
             for (int offset : numbers) {
-                x.mapping(16, factor, offset);
-                x.run(MapReduceRun.LARGEST);
                 String after = "factor " + factor + ", offset " + offset;
+                CHECKS.due(after, x.mapping(16, factor, offset), true);
+                x.run(MapReduceRun.LARGEST);
                 CHECKS.due(after, x.valueAt(0, 0), factor * Integer.MAX_VALUE + offset);
                 CHECKS.due(after, x.valueAt(0, 1), factor * Integer.MIN_VALUE + offset);
                 CHECKS.due(after, x.valueAt(0, 2), factor * 123456 + offset);
@@ -64,6 +76,7 @@ public final class MappingTest {
     }
 
     private static void onlyJobsToCome() {
+        CHECKS.sentence("Sets M, F and G for jobs to come");
         MapReduceRun x = new MapReduceRun(1, 2);
         x.addRecord(0, 9, 4);
         x.run(MapReduceRun.ADDED);

@@ -1,18 +1,29 @@
+import java.lang.reflect.Field;
+
 /** Promise 1: a new object. */
 public final class NewObjectTest {
     private static final Checks CHECKS = new Checks();
+    private static final int LEAST = Integer.MIN_VALUE;
+    private static final int GREATEST = Integer.MAX_VALUE;
 
-    public static void main(String[] args) {
+    public static void main(String[] args) throws ReflectiveOperationException {
         partsAreClamped();
-        nothingIsThereAtFirst();
-        settingsAtFirst();
+        bufferIsClamped();
+        noBufferBreaksAJob();
         bufferShowsInNoAnswer();
+        noRecords();
+        modulusIsSixteen();
+        factorAndOffset();
+        boundsAreTheWidest();
+        noFailuresToCome();
+        outputIsEmpty();
         objectsShareNothing();
         CHECKS.end();
     }
 
     private static void partsAreClamped() {
-        int[][] asked = {{Integer.MIN_VALUE, 1}, {-1, 1}, {0, 1}, {1, 1}, {2, 2}, {3, 3}, {4, 4}, {5, 4}, {Integer.MAX_VALUE, 4}};
+        CHECKS.sentence("P is parts clamped into 1..4");
+        int[][] asked = {{LEAST, 1}, {-1, 1}, {0, 1}, {1, 1}, {2, 2}, {3, 3}, {4, 4}, {5, 4}, {GREATEST, 4}};
         for (int[] a : asked) {
             MapReduceRun x = new MapReduceRun(a[0], 4);
             for (int part = -1; part <= 5; part++) {
@@ -20,38 +31,45 @@ public final class NewObjectTest {
                 CHECKS.due("parts " + a[0] + ": results(" + part + ")", x.results(part), there ? 0 : MapReduceRun.BAD);
                 CHECKS.due("parts " + a[0] + ": failures(true, " + part + ", 0)", x.failures(true, part, 0), there);
             }
+            x.addRecord(0, 11, 5);
+            x.run(MapReduceRun.ADDED);
+            CHECKS.due("parts " + a[0] + ": the part of key 11", x.results(11 % a[1]), 1);
         }
     }
 
-    private static void nothingIsThereAtFirst() {
-        MapReduceRun x = new MapReduceRun(4, 4);
-        for (int split = 0; split < 4; split++) {
-            CHECKS.due("emptySplit(" + split + ") at first", x.emptySplit(split), 0);
-            CHECKS.due("keyAt(" + split + ", 0) at first", x.keyAt(split, 0), MapReduceRun.BAD);
-            CHECKS.due("valueAt(" + split + ", 0) at first", x.valueAt(split, 0), 0);
+    private static void bufferIsClamped() throws ReflectiveOperationException {
+        CHECKS.sentence("buffer, clamped into 2..8");
+        int[][] asked = {{LEAST, 2}, {-1, 2}, {0, 2}, {1, 2}, {2, 2}, {3, 3}, {7, 7}, {8, 8}, {9, 8}, {GREATEST, 8}};
+        for (int[] a : asked) {
+            CHECKS.due("the buffer for " + a[0], bufferOf(new MapReduceRun(1, a[0])), a[1]);
         }
-        CHECKS.due("mapped() at first", x.mapped(), 0);
-        CHECKS.due("feedBack() at first", x.feedBack(), 0);
-        CHECKS.due("run(ADDED) without records", x.run(MapReduceRun.ADDED), 0);
     }
 
-    private static void settingsAtFirst() {
-        MapReduceRun x = new MapReduceRun(1, 4);
-        x.addRecord(0, 15, Integer.MIN_VALUE);
-        x.addRecord(1, 16, Integer.MAX_VALUE);
-        x.addRecord(2, -2, 5);
-        CHECKS.due("run with the first settings", x.run(MapReduceRun.ADDED), 3);
-        CHECKS.dueOutput("first settings", x, Checks.part(0, Integer.MAX_VALUE, 14, 5, 15, Integer.MIN_VALUE));
-        CHECKS.due("mapped with the first settings", x.mapped(), 3);
+    // The clamping shows in no answer, so the test looks at the field.
+    private static int bufferOf(MapReduceRun x) throws ReflectiveOperationException {
+        Field buffer = MapReduceRun.class.getDeclaredField("buffer");
+        buffer.setAccessible(true);
+        return buffer.getInt(x);
+    }
 
-        MapReduceRun y = new MapReduceRun(4, 4);
-        y.failures(false, 0, 3);
-        y.failures(true, 0, 3);
-        CHECKS.due("run with six failures set and none at first", y.run(MapReduceRun.ADDED), 0);
+    private static void noBufferBreaksAJob() {
+        CHECKS.sentence("the number of pairs that a map task sorts at once");
+        int[] buffers = {LEAST, -8, -1, 0, 1, 2, 8, 9, 15, 16, 17, 64, 65, GREATEST};
+        for (int buffer : buffers) {
+            MapReduceRun x = new MapReduceRun(1, buffer);
+            CHECKS.due("buffer " + buffer + ": run without records", x.run(MapReduceRun.ADDED), 0);
+            for (int n = 1; n <= 16; n++) {
+                x.addRecord(2, 16 - n, n);
+                CHECKS.due("buffer " + buffer + ": run with " + n, x.run(MapReduceRun.ADDED), n);
+                CHECKS.due("buffer " + buffer + ": the least key of " + n, x.keyAt(0, 0), 16 - n);
+                CHECKS.due("buffer " + buffer + ": its value", x.valueAt(0, 0), n);
+            }
+        }
     }
 
     private static void bufferShowsInNoAnswer() {
-        int[] buffers = {Integer.MIN_VALUE, -1, 0, 1, 2, 3, 4, 5, 6, 7, 8, 9, 100, Integer.MAX_VALUE};
+        CHECKS.sentence("it shows in no answer");
+        int[] buffers = {LEAST, -1, 0, 1, 2, 3, 4, 5, 6, 7, 8, 9, 100, GREATEST};
         for (int buffer : buffers) {
             MapReduceRun x = new MapReduceRun(2, buffer);
             x.mapping(3, 1, 0);
@@ -60,26 +78,89 @@ public final class NewObjectTest {
                     x.addRecord(split, 100 - 7 * i * i, split * 16 + i);
                 }
             }
-            int[] want = new int[3];
-            boolean[] there = new boolean[3];
-            for (int q = 0; q < 3; q++) {
-                want[q] = 7;
-                for (int n = 0; n < 64; n++) {
-                    if (Math.floorMod(100 - 7 * (n % 16) * (n % 16), 3) == q) {
-                        want[q] = 31 * want[q] + n;
-                        there[q] = true;
-                    }
-                }
+            int[] want = {7, 7, 7};
+            for (int n = 0; n < 64; n++) {
+                int q = Math.floorMod(100 - 7 * (n % 16) * (n % 16), 3);
+                want[q] = 31 * want[q] + n;
             }
             // The squares are 0 or 1 mod 3, so the keys are 1 and 0 alone.
-            CHECKS.due("key 2 is without pairs", there[2], false);
+            CHECKS.due("key 2 is without pairs", want[2], 7);
             CHECKS.due("buffer " + buffer + ": run(CHAIN)", x.run(MapReduceRun.CHAIN), 2);
             CHECKS.dueOutput("buffer " + buffer, x, Checks.part(0, want[0]), Checks.part(1, want[1]));
             CHECKS.due("buffer " + buffer + ": mapped()", x.mapped(), 64);
         }
     }
 
+    private static void noRecords() {
+        CHECKS.sentence("No records");
+        for (int split = 0; split < 4; split++) {
+            CHECKS.due("emptySplit(" + split + ") at first", new MapReduceRun(4, 4).emptySplit(split), 0);
+            CHECKS.due("addRecord(" + split + ", 1, 1) at first", new MapReduceRun(4, 4).addRecord(split, 1, 1), 1);
+        }
+        for (int reducer = 0; reducer <= 4; reducer++) {
+            MapReduceRun x = new MapReduceRun(1, 4);
+            CHECKS.due("run(" + reducer + ") at first", x.run(reducer), 0);
+            CHECKS.dueOutput("run(" + reducer + ") at first", x, Checks.part());
+            CHECKS.due("mapped() after run(" + reducer + ") at first", x.mapped(), 0);
+        }
+    }
+
+    private static void modulusIsSixteen() {
+        CHECKS.sentence("M is 16");
+        MapReduceRun x = new MapReduceRun(1, 4);
+        x.addRecord(0, 15, 1);
+        x.addRecord(0, 16, 2);
+        x.addRecord(0, 17, 3);
+        x.addRecord(0, -2, 4);
+        x.run(MapReduceRun.ADDED);
+        CHECKS.dueOutput("at first", x, Checks.part(0, 2, 1, 3, 14, 4, 15, 1));
+    }
+
+    private static void factorAndOffset() {
+        CHECKS.sentence("F 1, G 0");
+        MapReduceRun x = new MapReduceRun(1, 4);
+        x.addRecord(0, 0, 0);
+        x.addRecord(0, 1, 1);
+        x.addRecord(0, 2, -9);
+        x.run(MapReduceRun.ADDED);
+        CHECKS.dueOutput("at first", x, Checks.part(0, 0, 1, 1, 2, -9));
+    }
+
+    private static void boundsAreTheWidest() {
+        CHECKS.sentence("L the least and U the greatest int");
+        MapReduceRun x = new MapReduceRun(1, 4);
+        x.addRecord(0, 0, LEAST);
+        x.addRecord(0, 1, LEAST + 1);
+        x.addRecord(0, 2, GREATEST - 1);
+        x.addRecord(0, 3, GREATEST);
+        CHECKS.due("run at first", x.run(MapReduceRun.ADDED), 4);
+        CHECKS.dueOutput("at first", x, Checks.part(0, LEAST, 1, LEAST + 1, 2, GREATEST - 1, 3, GREATEST));
+    }
+
+    private static void noFailuresToCome() {
+        CHECKS.sentence("no failures to come");
+        // With six failures of two tasks, one more of any other task would give the job up.
+        for (int a = 0; a < 8; a++) {
+            MapReduceRun x = new MapReduceRun(4, 4);
+            int b = (a + 1) % 8;
+            x.failures(a >= 4, a % 4, 3);
+            x.failures(b >= 4, b % 4, 3);
+            CHECKS.due("the first run with six failures of " + a + " and " + b, x.run(MapReduceRun.ADDED), 0);
+        }
+    }
+
+    private static void outputIsEmpty() {
+        CHECKS.sentence("the output is empty");
+        for (int parts = 1; parts <= 4; parts++) {
+            MapReduceRun x = new MapReduceRun(parts, 4);
+            x.addRecord(0, 0, 7);
+            CHECKS.dueOutput("before any job", x, new int[parts][0]);
+            CHECKS.due("feedBack() before any job", x.feedBack(), 0);
+        }
+    }
+
     private static void objectsShareNothing() {
+        CHECKS.sentence("A new object");
         MapReduceRun x = new MapReduceRun(1, 2);
         MapReduceRun y = new MapReduceRun(1, 2);
         x.addRecord(0, 1, 1);

@@ -1,90 +1,79 @@
-/** Promises 7, 8 and 9: results, keyAt and valueAt. */
+/** Promise 7: results. */
 public final class ResultsTest {
     private static final Checks CHECKS = new Checks();
-    private static final int[] OUTSIDE = {Integer.MIN_VALUE, -16, -1, 16, 17, 64, Integer.MAX_VALUE};
 
     public static void main(String[] args) {
-        eachPart();
-        partsThatAreNotThere();
-        resultsThatAreNotThere();
-        oldResultsAreGone();
-        fullPart();
+        numberOfResults();
+        emptyAndFullParts();
+        badPart();
+        badPartChangesNothing();
+        lookingChangesNothing();
         CHECKS.end();
     }
 
-    private static MapReduceRun threeParts() {
+    private static void numberOfResults() {
+        CHECKS.sentence("The number of results in a part of the output");
         MapReduceRun x = new MapReduceRun(3, 2);
         x.addRecord(1, 9, 90);
         x.addRecord(1, 1, 10);
         x.addRecord(0, 3, 30);
+        x.addRecord(0, 19, 30);
         x.run(MapReduceRun.ADDED);
-        return x;
-    }
-
-    private static void eachPart() {
-        MapReduceRun x = threeParts();
         CHECKS.due("results(0)", x.results(0), 2);
         CHECKS.due("results(1)", x.results(1), 1);
         CHECKS.due("results(2)", x.results(2), 0);
-        CHECKS.due("keyAt(0, 0)", x.keyAt(0, 0), 3);
-        CHECKS.due("keyAt(0, 1)", x.keyAt(0, 1), 9);
-        CHECKS.due("keyAt(1, 0)", x.keyAt(1, 0), 1);
-        CHECKS.due("valueAt(0, 0)", x.valueAt(0, 0), 30);
-        CHECKS.due("valueAt(0, 1)", x.valueAt(0, 1), 90);
-        CHECKS.due("valueAt(1, 0)", x.valueAt(1, 0), 10);
-    }
-
-    private static void partsThatAreNotThere() {
-        MapReduceRun x = threeParts();
-        int[] parts = {Integer.MIN_VALUE, -1, 3, 4, 5, Integer.MAX_VALUE};
-        for (int part : parts) {
-            CHECKS.due("results(" + part + ")", x.results(part), MapReduceRun.BAD);
-            for (int i = -1; i <= 16; i++) {
-                CHECKS.due("keyAt(" + part + ", " + i + ")", x.keyAt(part, i), MapReduceRun.BAD);
-                CHECKS.due("valueAt(" + part + ", " + i + ")", x.valueAt(part, i), 0);
-            }
-        }
-    }
-
-    private static void resultsThatAreNotThere() {
-        MapReduceRun x = threeParts();
-        for (int part = 0; part < 3; part++) {
-            for (int i = x.results(part); i < 16; i++) {
-                noneAt(x, part, i);
-            }
-            for (int i : OUTSIDE) {
-                noneAt(x, part, i);
-            }
-        }
-    }
-
-    private static void noneAt(MapReduceRun x, int part, int i) {
-        CHECKS.due("keyAt(" + part + ", " + i + ")", x.keyAt(part, i), MapReduceRun.BAD);
-        CHECKS.due("valueAt(" + part + ", " + i + ")", x.valueAt(part, i), 0);
-    }
-
-    private static void oldResultsAreGone() {
-        MapReduceRun x = threeParts();
-        x.bounds(30, 30);
+        x.bounds(90, 90);
         x.run(MapReduceRun.ADDED);
         CHECKS.due("results(0) of the smaller job", x.results(0), 1);
-        noneAt(x, 0, 1);
-        noneAt(x, 1, 0);
+        CHECKS.due("results(1) of the smaller job", x.results(1), 0);
     }
 
-    private static void fullPart() {
-        MapReduceRun x = new MapReduceRun(1, 8);
-        for (int key = 0; key < 16; key++) {
-            x.addRecord(key / 4, 15 - key, key);
+    private static void emptyAndFullParts() {
+        CHECKS.sentence("The number of results in a part of the output");
+        int[][] want = {{16}, {8, 8}, {6, 5, 5}, {4, 4, 4, 4}};
+        for (int parts = 1; parts <= 4; parts++) {
+            MapReduceRun x = new MapReduceRun(parts, 2);
+            for (int key = 0; key < 16; key++) {
+                x.addRecord(key / 4, key, 1);
+            }
+            for (int part = 0; part < parts; part++) {
+                CHECKS.due("results(" + part + ") of " + parts + " before any job", x.results(part), 0);
+            }
+            x.run(MapReduceRun.ADDED);
+            for (int part = 0; part < parts; part++) {
+                CHECKS.due("results(" + part + ") of " + parts, x.results(part), want[parts - 1][part]);
+            }
         }
-        x.run(MapReduceRun.ADDED);
-        CHECKS.due("results(0) of the full part", x.results(0), 16);
-        for (int i = 0; i < 16; i++) {
-            CHECKS.due("keyAt(0, " + i + ")", x.keyAt(0, i), i);
-            CHECKS.due("valueAt(0, " + i + ")", x.valueAt(0, i), 15 - i);
+    }
+
+    private static void badPart() {
+        CHECKS.sentence("BAD for part outside 0..P-1");
+        for (int parts = 1; parts <= 4; parts++) {
+            for (Past past : Past.values()) {
+                MapReduceRun x = past.make(parts);
+                for (int part : new int[] {Integer.MIN_VALUE, -1, parts, parts + 1, 4, 5, 16, Integer.MAX_VALUE}) {
+                    CHECKS.due(past + ": results(" + part + ") of " + parts, x.results(part), -1);
+                }
+                CHECKS.due(past + ": results(0) is not BAD", x.results(0) >= 0, true);
+                CHECKS.due(past + ": results(P-1) is not BAD", x.results(parts - 1) >= 0, true);
+            }
         }
-        for (int i : OUTSIDE) {
-            noneAt(x, 0, i);
+    }
+
+    private static void badPartChangesNothing() {
+        CHECKS.sentence("BAD for part outside 0..P-1");
+        Twins twins = new Twins(CHECKS);
+        for (int parts = 1; parts <= 4; parts++) {
+            for (int part : new int[] {Integer.MIN_VALUE, -1, parts, Integer.MAX_VALUE}) {
+                twins.changesNothing(parts, "results(" + part + ")", MapReduceRun.BAD, x -> x.results(part));
+            }
         }
+    }
+
+    private static void lookingChangesNothing() {
+        CHECKS.sentence("The number of results in a part of the output");
+        Twins twins = new Twins(CHECKS);
+        twins.changesNothing("results(0), keyAt(0, 0), valueAt(0, 0) and mapped()", 0,
+                x -> 0 & (x.results(0) + x.keyAt(0, 0) + x.valueAt(0, 0) + x.mapped()));
     }
 }

@@ -1,20 +1,25 @@
-/** Promise 6: run, and the terms' rules for results, parts and a job that is given up. */
+/** Promise 6: run. */
 public final class RunTest {
     private static final Checks CHECKS = new Checks();
+    private static final int[] OUTSIDE = {Integer.MIN_VALUE, -3, -2, -1, 5, 6, Integer.MAX_VALUE};
 
     public static void main(String[] args) {
         eachReducer();
-        extremeValues();
-        chainGoesSplitBySplit();
-        keysGoToTheirParts();
-        badReducerChangesNothing();
+        wholeInput();
+        anyOtherReducer();
+        anyOtherReducerKeepsOutputAndFailures();
+        anyOtherReducerChangesNothing();
         resultsReplaceTheOutput();
-        givenUpJob();
+        answersTheNumberOfResults();
+        answersGivenUp();
         inputStays();
+        inputStaysWhenGivenUp();
+        settingsStay();
         CHECKS.end();
     }
 
     private static void eachReducer() {
+        CHECKS.sentence("Runs a job with a reducer (0..4)");
         MapReduceRun x = new MapReduceRun(2, 2);
         x.addRecord(0, 1, 5);
         x.addRecord(0, 2, -8);
@@ -33,77 +38,59 @@ public final class RunTest {
         CHECKS.dueOutput("CHAIN", x, Checks.part(2, (7 * 31 - 8) * 31 - 9), Checks.part(1, ((7 * 31 + 5) * 31 - 3) * 31 + 4));
     }
 
-    private static void extremeValues() {
-        MapReduceRun x = new MapReduceRun(1, 2);
-        x.addRecord(0, 0, Integer.MIN_VALUE);
-        x.addRecord(0, 1, Integer.MAX_VALUE);
-        x.addRecord(1, 0, Integer.MIN_VALUE);
-        x.addRecord(1, 1, Integer.MAX_VALUE);
-        x.addRecord(2, 2, Integer.MIN_VALUE);
-        x.addRecord(2, 2, Integer.MAX_VALUE);
-        x.run(MapReduceRun.ADDED);
-        CHECKS.dueOutput("sums wrap", x, Checks.part(0, 0, 1, -2, 2, -1));
-        x.run(MapReduceRun.LARGEST);
-        CHECKS.dueOutput("the greatest", x, Checks.part(0, Integer.MIN_VALUE, 1, Integer.MAX_VALUE, 2, Integer.MAX_VALUE));
-        x.run(MapReduceRun.SMALLEST);
-        CHECKS.dueOutput("the least", x, Checks.part(0, Integer.MIN_VALUE, 1, Integer.MAX_VALUE, 2, Integer.MIN_VALUE));
-    }
-
-    private static void chainGoesSplitBySplit() {
-        for (int buffer = 2; buffer <= 8; buffer++) {
-            MapReduceRun x = new MapReduceRun(1, buffer);
-            for (int i = 0; i < 16; i++) {
-                for (int split = 3; split >= 0; split--) {
-                    x.addRecord(split, 15 - i % 3, split * 16 + i);
-                }
-            }
-            int[] want = {7, 7, 7};
-            for (int n = 0; n < 64; n++) {
-                want[n % 16 % 3] = 31 * want[n % 16 % 3] + n;
-            }
-            CHECKS.due("run(CHAIN), buffer " + buffer, x.run(MapReduceRun.CHAIN), 3);
-            CHECKS.dueOutput("CHAIN, buffer " + buffer, x, Checks.part(13, want[2], 14, want[1], 15, want[0]));
+    private static void wholeInput() {
+        CHECKS.sentence("on the whole input");
+        for (int split = 0; split < 4; split++) {
+            MapReduceRun x = new MapReduceRun(1, 2);
+            x.addRecord(split, 1, 9);
+            CHECKS.due("run with a record in split " + split + " alone", x.run(MapReduceRun.ADDED), 1);
+            CHECKS.dueOutput("split " + split + " alone", x, Checks.part(1, 9));
         }
-    }
-
-    private static void keysGoToTheirParts() {
-        for (int parts = 1; parts <= 4; parts++) {
-            MapReduceRun x = new MapReduceRun(parts, 5);
-            for (int key = 15; key >= 0; key--) {
-                x.addRecord(key % 4, key, 100 + key);
-            }
-            CHECKS.due("run with " + parts + " parts", x.run(MapReduceRun.ADDED), 16);
-            int[][] want = new int[parts][];
-            for (int part = 0; part < parts; part++) {
-                want[part] = new int[2 * ((15 - part) / parts + 1)];
-                for (int i = 0; i < want[part].length / 2; i++) {
-                    want[part][2 * i] = part + i * parts;
-                    want[part][2 * i + 1] = 100 + part + i * parts;
-                }
-            }
-            CHECKS.dueOutput(parts + " parts", x, want);
+        MapReduceRun x = new MapReduceRun(1, 7);
+        for (int n = 0; n < 64; n++) {
+            x.addRecord(n % 4, 5, n);
         }
+        x.run(MapReduceRun.ADDED);
+        CHECKS.dueOutput("four full splits", x, Checks.part(5, 2016));
     }
 
-    private static void badReducerChangesNothing() {
-        MapReduceRun x = new MapReduceRun(1, 2);
-        x.addRecord(0, 1, 2);
-        x.run(MapReduceRun.ADDED);
-        x.addRecord(0, 3, 4);
-        x.failures(false, 0, 3);
-        x.failures(false, 1, 3);
-        x.failures(true, 0, 1);
-        int[] bad = {-1, 5, 6, Integer.MIN_VALUE, Integer.MAX_VALUE};
-        for (int reducer : bad) {
-            CHECKS.due("run(" + reducer + ")", x.run(reducer), MapReduceRun.BAD);
-            CHECKS.dueOutput("run(" + reducer + ")", x, Checks.part(1, 2));
+    private static void anyOtherReducer() {
+        CHECKS.sentence("Any other reducer: BAD");
+        for (int reducer : OUTSIDE) {
+            CHECKS.due("run(" + reducer + ")", new MapReduceRun(1, 2).run(reducer), -1);
+        }
+        CHECKS.due("run(0)", new MapReduceRun(1, 2).run(0), 0);
+        CHECKS.due("run(4)", new MapReduceRun(1, 2).run(4), 0);
+    }
+
+    private static void anyOtherReducerKeepsOutputAndFailures() {
+        CHECKS.sentence("Any other reducer: BAD, and nothing changes");
+        for (int reducer : OUTSIDE) {
+            MapReduceRun x = new MapReduceRun(1, 2);
+            x.addRecord(0, 1, 2);
+            x.run(MapReduceRun.ADDED);
+            x.addRecord(0, 3, 4);
+            x.failures(false, 0, 3);
+            x.failures(false, 1, 3);
+            x.failures(true, 0, 1);
+            CHECKS.due("run(" + reducer + ") with seven failures", x.run(reducer), MapReduceRun.BAD);
+            CHECKS.dueOutput("the output after run(" + reducer + ")", x, Checks.part(1, 2));
             CHECKS.due("mapped() after run(" + reducer + ")", x.mapped(), 1);
+            CHECKS.due("the failures are still to come", x.run(MapReduceRun.ADDED), MapReduceRun.GIVEN_UP);
+            CHECKS.due("the input is still there", x.emptySplit(0), 2);
         }
-        CHECKS.due("the failures are still to come", x.run(MapReduceRun.ADDED), MapReduceRun.GIVEN_UP);
-        CHECKS.due("the input is still there", x.emptySplit(0), 2);
+    }
+
+    private static void anyOtherReducerChangesNothing() {
+        CHECKS.sentence("Any other reducer: BAD, and nothing changes");
+        Twins twins = new Twins(CHECKS);
+        for (int reducer : OUTSIDE) {
+            twins.changesNothing("run(" + reducer + ")", MapReduceRun.BAD, x -> x.run(reducer));
+        }
     }
 
     private static void resultsReplaceTheOutput() {
+        CHECKS.sentence("Else its results replace the output");
         MapReduceRun x = new MapReduceRun(2, 2);
         x.addRecord(0, 1, 1);
         x.addRecord(0, 2, 2);
@@ -118,21 +105,40 @@ public final class RunTest {
         CHECKS.dueOutput("the third job", x, Checks.part(), Checks.part());
     }
 
-    private static void givenUpJob() {
+    private static void answersTheNumberOfResults() {
+        CHECKS.sentence("answers the number of results (of keys)");
+        for (int parts = 1; parts <= 4; parts++) {
+            MapReduceRun x = new MapReduceRun(parts, 2);
+            CHECKS.due("run without records, " + parts + " parts", x.run(MapReduceRun.TALLY), 0);
+            for (int n = 1; n <= 16; n++) {
+                x.addRecord(n % 4, 5 * n, 1);
+                x.addRecord(3 - n % 4, 5 * n - 16, 1);
+                CHECKS.due("run with " + n + " keys, " + parts + " parts", x.run(MapReduceRun.TALLY), n);
+            }
+            x.addRecord(2, 1, 1);
+            CHECKS.due("run with all keys, " + parts + " parts", x.run(MapReduceRun.TALLY), 16);
+        }
+    }
+
+    private static void answersGivenUp() {
+        CHECKS.sentence("or GIVEN_UP");
         MapReduceRun x = new MapReduceRun(2, 2);
         x.addRecord(0, 1, 1);
         x.addRecord(1, 2, 2);
-        x.run(MapReduceRun.ADDED);
+        x.failures(false, 3, 3);
+        x.failures(true, 0, 3);
+        CHECKS.due("run with six failures", x.run(MapReduceRun.ADDED), 2);
         x.failures(false, 3, 3);
         x.failures(true, 0, 3);
         x.failures(true, 1, 1);
-        CHECKS.due("run with seven failures", x.run(MapReduceRun.ADDED), MapReduceRun.GIVEN_UP);
+        CHECKS.due("run with seven failures", x.run(MapReduceRun.ADDED), -3);
         CHECKS.dueOutput("given up", x, Checks.part(), Checks.part());
         CHECKS.due("the next run", x.run(MapReduceRun.ADDED), 2);
         CHECKS.dueOutput("the next run", x, Checks.part(2, 2), Checks.part(1, 1));
     }
 
     private static void inputStays() {
+        CHECKS.sentence("The input stays");
         MapReduceRun x = new MapReduceRun(1, 2);
         x.addRecord(0, 5, 1);
         x.addRecord(0, 3, 2);
@@ -143,5 +149,38 @@ public final class RunTest {
         x.run(MapReduceRun.CHAIN);
         CHECKS.dueOutput("the unchanged input", x, Checks.part(3, 7 * 31 + 2, 5, (7 * 31 + 1) * 31 + 3));
         CHECKS.due("the records", x.emptySplit(0), 3);
+    }
+
+    private static void inputStaysWhenGivenUp() {
+        CHECKS.sentence("The input stays");
+        MapReduceRun x = new MapReduceRun(1, 2);
+        for (int split = 0; split < 4; split++) {
+            x.addRecord(split, 5, split);
+            x.failures(false, split, 2);
+        }
+        CHECKS.due("run with eight failures", x.run(MapReduceRun.CHAIN), MapReduceRun.GIVEN_UP);
+        CHECKS.due("the next run", x.run(MapReduceRun.ADDED), 1);
+        CHECKS.dueOutput("the next run", x, Checks.part(5, 6));
+        for (int split = 0; split < 4; split++) {
+            CHECKS.due("emptySplit(" + split + ")", x.emptySplit(split), 1);
+        }
+    }
+
+    private static void settingsStay() {
+        CHECKS.sentence("for jobs to come");
+        MapReduceRun x = new MapReduceRun(1, 2);
+        x.addRecord(0, 5, 1);
+        x.addRecord(0, 5, 9);
+        x.addRecord(0, 5, -1);
+        x.mapping(3, 2, 1);
+        x.bounds(0, 8);
+        for (int n = 0; n < 3; n++) {
+            x.run(MapReduceRun.ADDED);
+            CHECKS.dueOutput("job " + n, x, Checks.part(2, 3));
+            x.failures(false, 0, 3);
+            x.failures(false, 1, 3);
+            x.failures(false, 2, 1);
+            CHECKS.due("a job that is given up", x.run(MapReduceRun.ADDED), MapReduceRun.GIVEN_UP);
+        }
     }
 }
