@@ -1,15 +1,12 @@
-import java.lang.reflect.Field;
-
 /** Promise 1: a new object. */
 public final class NewObjectTest {
     private static final Checks CHECKS = new Checks();
     private static final int LEAST = Integer.MIN_VALUE;
     private static final int GREATEST = Integer.MAX_VALUE;
 
-    public static void main(String[] args) throws ReflectiveOperationException {
+    public static void main(String[] args) {
         partsAreClamped();
-        bufferIsClamped();
-        noBufferBreaksAJob();
+        anyBufferWillDo();
         bufferShowsInNoAnswer();
         noRecords();
         modulusIsSixteen();
@@ -37,24 +34,10 @@ public final class NewObjectTest {
         }
     }
 
-    private static void bufferIsClamped() throws ReflectiveOperationException {
-        CHECKS.sentence("buffer, clamped into 2..8");
-        int[][] asked = {{LEAST, 2}, {-1, 2}, {0, 2}, {1, 2}, {2, 2}, {3, 3}, {7, 7}, {8, 8}, {9, 8}, {GREATEST, 8}};
-        for (int[] a : asked) {
-            CHECKS.due("the buffer for " + a[0], bufferOf(new MapReduceRun(1, a[0])), a[1]);
-        }
-    }
-
-    // The clamping shows in no answer, so the test looks at the field.
-    private static int bufferOf(MapReduceRun x) throws ReflectiveOperationException {
-        Field buffer = MapReduceRun.class.getDeclaredField("buffer");
-        buffer.setAccessible(true);
-        return buffer.getInt(x);
-    }
-
-    private static void noBufferBreaksAJob() {
-        CHECKS.sentence("the number of pairs that a map task sorts at once");
-        int[] buffers = {LEAST, -8, -1, 0, 1, 2, 8, 9, 15, 16, 17, 64, 65, GREATEST};
+    // The clamping itself shows in no answer: all that can be due is that no buffer, inside 2..8 or not, makes an answer wrong.
+    private static void anyBufferWillDo() {
+        CHECKS.sentence("buffer, clamped into 2..8, is the number of pairs that a map task sorts at once");
+        int[] buffers = {LEAST, -8, -1, 0, 1, 2, 3, 7, 8, 9, 15, 16, 17, 64, 65, GREATEST};
         for (int buffer : buffers) {
             MapReduceRun x = new MapReduceRun(1, buffer);
             CHECKS.due("buffer " + buffer + ": run without records", x.run(MapReduceRun.ADDED), 0);

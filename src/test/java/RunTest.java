@@ -10,6 +10,7 @@ public final class RunTest {
         anyOtherReducerKeepsOutputAndFailures();
         anyOtherReducerChangesNothing();
         resultsReplaceTheOutput();
+        olderJobsDoNotShow();
         answersTheNumberOfResults();
         answersGivenUp();
         inputStays();
@@ -103,6 +104,44 @@ public final class RunTest {
         x.emptySplit(0);
         CHECKS.due("the third job", x.run(MapReduceRun.ADDED), 0);
         CHECKS.dueOutput("the third job", x, Checks.part(), Checks.part());
+    }
+
+    private static void olderJobsDoNotShow() {
+        CHECKS.sentence("Else its results replace the output");
+        for (int parts = 1; parts <= 4; parts++) {
+            for (int modulus = 1; modulus <= 16; modulus++) {
+                for (int records = 0; records <= 12; records += 3) {
+                    smallJobAfterABigOne(parts, modulus, records);
+                }
+            }
+        }
+    }
+
+    private static void smallJobAfterABigOne(int parts, int modulus, int records) {
+        MapReduceRun old = new MapReduceRun(parts, 3);
+        old.mapping(modulus, 1, 0);
+        for (int n = 0; n < 64; n++) {
+            old.addRecord(n / 16, 7 * n, 1000 + n);
+        }
+        old.run(MapReduceRun.ADDED);
+        for (int split = 0; split < 4; split++) {
+            old.emptySplit(split);
+        }
+        MapReduceRun fresh = new MapReduceRun(parts, 3);
+        fresh.mapping(modulus, 1, 0);
+        for (int n = 0; n < records; n++) {
+            old.addRecord(n % 4, 5 * n, n);
+            fresh.addRecord(n % 4, 5 * n, n);
+        }
+        String call = "run with " + records + " records, " + parts + " parts and modulus " + modulus + " after a bigger job";
+        CHECKS.due(call, old.run(MapReduceRun.CHAIN), fresh.run(MapReduceRun.CHAIN));
+        CHECKS.due(call + ", mapped()", old.mapped(), records);
+        for (int part = 0; part < parts; part++) {
+            for (int i = 0; i <= 16; i++) {
+                CHECKS.due(call + ", keyAt(" + part + ", " + i + ")", old.keyAt(part, i), fresh.keyAt(part, i));
+                CHECKS.due(call + ", valueAt(" + part + ", " + i + ")", old.valueAt(part, i), fresh.valueAt(part, i));
+            }
+        }
     }
 
     private static void answersTheNumberOfResults() {

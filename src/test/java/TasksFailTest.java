@@ -3,6 +3,7 @@ public final class TasksFailTest {
     private static final Checks CHECKS = new Checks();
 
     public static void main(String[] args) {
+        eachTaskHasANumber();
         emptySplitsFailToo();
         emptyPartsFailToo();
         failuresAreUsedUp();
@@ -16,6 +17,36 @@ public final class TasksFailTest {
 
     private static void setTask(MapReduceRun x, int task, int times) {
         CHECKS.due("failures of task " + task, x.failures(task >= 4, task % 4, times), true);
+    }
+
+    private static void eachTaskHasANumber() {
+        CHECKS.sentence("for each split and for each part there is a number of failures to come, from 0 to 3");
+        for (int parts = 1; parts <= 4; parts++) {
+            for (int task = 0; task < 8; task++) {
+                for (int times = -1; times <= 4; times++) {
+                    numberOf(parts, task, times);
+                }
+            }
+        }
+    }
+
+    // The number is seen from outside by how many failures of other tasks bring the job to seven.
+    private static void numberOf(int parts, int task, int times) {
+        boolean taken = task < 4 + parts && times >= 0 && times <= 3;
+        int number = taken ? times : 0;
+        String call = "failures(" + (task >= 4) + ", " + task % 4 + ", " + times + ") with " + parts + " parts";
+        for (int total = 6; total <= 7; total++) {
+            MapReduceRun x = new MapReduceRun(parts, 2);
+            CHECKS.due(call, x.failures(task >= 4, task % 4, times), taken);
+            int left = total - number;
+            for (int other = 0; other < 4 + parts; other++) {
+                if (other != task) {
+                    setTask(x, other, Math.min(left, 3));
+                    left -= Math.min(left, 3);
+                }
+            }
+            CHECKS.due(call + ", then a job with " + total, x.run(MapReduceRun.ADDED), total == 6 ? 0 : MapReduceRun.GIVEN_UP);
+        }
     }
 
     private static void emptySplitsFailToo() {

@@ -1,12 +1,10 @@
-/** The terms: records, pairs, results and parts, and how long an object is used. */
+/** The terms: records, pairs, results and parts. */
 public final class TermsTest {
     private static final Checks CHECKS = new Checks();
     private static final int LEAST = Integer.MIN_VALUE;
     private static final int GREATEST = Integer.MAX_VALUE;
 
     public static void main(String[] args) {
-        the512thCall();
-        noCallThrowsAfterIt();
         fourSplits();
         sixteenRecords();
         anyInts();
@@ -41,34 +39,6 @@ public final class TermsTest {
         MapReduceRun x = withValues(values);
         CHECKS.due("run(" + reducer + ")", x.run(reducer), 1);
         return x.valueAt(0, 0);
-    }
-
-    private static void the512thCall() {
-        CHECKS.sentence("An object is used for at most 512 calls after it has been made");
-        MapReduceRun x = new MapReduceRun(1, 8);
-        int calls = 0;
-        for (; calls < 64; calls++) {
-            CHECKS.due("call " + (calls + 1), x.addRecord(calls / 16, calls, 1), calls % 16 + 1);
-        }
-        for (; calls < 511; calls++) {
-            CHECKS.due("call " + (calls + 1), x.run(MapReduceRun.TALLY), 16);
-        }
-        CHECKS.due("the 512th call, valueAt(0, 15)", x.valueAt(0, 15), 4);
-    }
-
-    private static void noCallThrowsAfterIt() {
-        CHECKS.sentence("what later calls answer is free");
-        MapReduceRun x = new MapReduceRun(4, 2);
-        for (int n = 0; n < 3000; n++) {
-            x.addRecord(n % 4, n, n);
-            x.failures(n % 2 == 0, n % 4, n % 4);
-            x.run(n % 5);
-            x.keyAt(n % 4, n % 16);
-            x.valueAt(n % 4, n % 16);
-            if (n % 7 == 0) {
-                x.feedBack();
-            }
-        }
     }
 
     private static void fourSplits() {
